@@ -853,7 +853,7 @@ public final class MustardFast {
         private static final int NO_STEP = -1, START = 0, HEAD = 1, SOUR = 2, COMMA = 3, DAY = 4;
         private static final int SEMICOLON = 5, LETTER = 6, STAY = 7, SPOONS = 8, NEED = 9;
         private static final int CODE_D = 100, CODE_E = 101, CODE_L = 108, CODE_S = 115;
-        private static final int CODE_COMMA = 44, CODE_SEMICOLON = 59, CODE_0 = 48, CODE_9 = 57;
+        private static final int CODE_COMMA = 44, CODE_SEMICOLON = 59, CODE_0 = 48;
 
         static int firstFault(Sheet text, int from, int n) {
             int step = START;
@@ -922,7 +922,7 @@ public final class MustardFast {
         }
 
         static boolean isDigitAt(Sheet text, int i) {
-            return isDigit(text.numberAt(i), 0, 9);
+            return isDigit(text.numberAt(i), 0, MOST_LOOK);
         }
 
         static int digitAt(Sheet text, int i) {

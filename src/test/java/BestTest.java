@@ -54,6 +54,11 @@ public final class BestTest {
         Due.is(-9, x.village(), "one has no best");
         x.crave(1, 4);
         Due.is(6 + 20 + 4, x.village(), "all days are needed");
+        x = Due.told("d0,9999;e014;e014;e014;e014");
+        Due.tell(x, "d0,9999;e021;e031");
+        Due.is(5, x.village(), "eaters of an older text pay nothing");
+        Due.tell(x, "d0,99;e021;e031");
+        Due.is(5, x.village(), "nor want they what they can't have");
         Due.is(216, Due.told("d9,999999;l596;l596;l596;l596").village(), "the dearest village");
     }
 

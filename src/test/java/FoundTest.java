@@ -5,6 +5,7 @@ public final class FoundTest {
         yellow();
         found();
         plan();
+        plansOfFewerThanThereWere();
         plansOfOtherLanes();
         refusalsOfPlan();
         Due.end();
@@ -77,6 +78,22 @@ public final class FoundTest {
             Due.is(foundOn[d], Due.plan(x, 10 + d, 1 + 4, 2, 1), "how many are found on " + d);
         }
         Due.is(0, x.fault(), "an answer NONE is no fault");
+    }
+
+    /** Neither the eaters of an older text nor the cells beside a plan may count. */
+    private static void plansOfFewerThanThereWere() {
+        MustardFast x = Due.told("d0,999999;e596;e596;e596;e596");
+        Due.is(2, Due.tell(x, "d5,1999;e012;e021"), "two eaters behind four");
+        Due.row(x, 2, Due.INTS, 15, 15, 1, 4, 15, 15);
+        Due.is(2, x.plan(2, Due.INTS, 2, 2, 0), "fines together");
+        Due.is(2, x.plan(2, Due.INTS, 2, 2, 1), "the first day");
+        Due.is(2, x.plan(2, Due.INTS, 2, 2, 2), "who is found");
+        Due.is(1, x.plan(2, Due.INTS, 2, 2, 3), "who eats too little");
+        Due.is(1, x.plan(2, Due.INTS, 2, 2, 12), "how many on day 2");
+        Due.is(0, x.plan(2, Due.INTS, 2, 2, 13), "how many on day 3");
+        Due.row(x, 2, Due.INTS, 1, 1, 0, 0, 0);
+        Due.is(0, x.plan(2, Due.INTS, 1, 2, 2), "the cells of an older eater's place are 0");
+        Due.is(3, x.plan(2, Due.INTS, 1, 2, 3), "nor does an older eater need");
     }
 
     private static void plansOfOtherLanes() {
