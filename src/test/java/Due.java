@@ -6,15 +6,27 @@ final class Due {
 
     private static int asked = 0;
     private static int wrong = 0;
+    private static int askedAhead = 0;
+    private static String at = "";
 
     private Due() {
+    }
+
+    /** What is asked from here on is told by a case's name. */
+    static void begin(String name) {
+        at = name + ": ";
+        askedAhead = asked;
+    }
+
+    static int askedOfCase() {
+        return asked - askedAhead;
     }
 
     static void is(long want, long got, String call) {
         asked++;
         if (got != want) {
             wrong++;
-            System.out.println(call + " answered " + got + ", due is " + want);
+            System.out.println(at + call + " answered " + got + ", due is " + want);
         }
     }
 
