@@ -203,6 +203,10 @@ public final class BestEdgesTest {
         smile("d5,199199;e016", 1, 3);
     }
 
+    static void smileIsNotOnALaterFastThatFreesLess() {
+        smile("d5,1999;e111", 1, 0);
+    }
+
     static void smileIsAFastNotTheLeastDay() {
         smile("d5,1191;e010", 2, 0);
     }

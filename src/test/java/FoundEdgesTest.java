@@ -405,6 +405,17 @@ public final class FoundEdgesTest {
         Due.is(x, 12, 0, x.plan(2, INTS, 1, 3, 0), "wrong cells beside it");
     }
 
+    static void planOlderEatersDoNotCount() {
+        MustardFast x = Due.told("d5,9;e015;e015;e015;e015");
+        Due.tell(x, "d5,9;e011");
+        Due.row(x, 2, INTS, 1, 1, 1, 1);
+        Due.is(1, x.plan(2, INTS, 0, 1, 0), "fines");
+        Due.is(1, x.plan(2, INTS, 0, 1, 2), "who is found");
+        Due.is(0, x.plan(2, INTS, 0, 1, 3), "who eats less often");
+        Due.is(1, x.plan(2, INTS, 0, 1, 10), "how many on day 0");
+        Due.is(x, OUTSIDE, 0, x.plan(2, INTS, 0, 4, 0), "as many as there were");
+    }
+
     // ---- promise 11: of several the first
 
     static void planUnknownAheadOfAll() {
