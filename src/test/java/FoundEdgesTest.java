@@ -406,13 +406,15 @@ public final class FoundEdgesTest {
     }
 
     static void planOlderEatersDoNotCount() {
-        MustardFast x = Due.told("d5,9;e015;e015;e015;e015");
-        Due.tell(x, "d5,9;e011");
-        Due.row(x, 2, INTS, 1, 1, 1, 1);
+        MustardFast x = Due.told("d5,99;e015;e015;e015;e015");
+        Due.tell(x, "d5,99;e011");
+        Due.row(x, 2, INTS, 2, 1, 1, 1);
         Due.is(1, x.plan(2, INTS, 0, 1, 0), "fines");
+        Due.is(1, x.plan(2, INTS, 0, 1, 1), "first day");
         Due.is(1, x.plan(2, INTS, 0, 1, 2), "who is found");
         Due.is(0, x.plan(2, INTS, 0, 1, 3), "who eats less often");
-        Due.is(1, x.plan(2, INTS, 0, 1, 10), "how many on day 0");
+        Due.is(0, x.plan(2, INTS, 0, 1, 10), "how many on day 0");
+        Due.is(1, x.plan(2, INTS, 0, 1, 11), "how many on day 1");
         Due.is(x, OUTSIDE, 0, x.plan(2, INTS, 0, 4, 0), "as many as there were");
     }
 
