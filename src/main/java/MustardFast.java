@@ -681,10 +681,11 @@ public final class MustardFast {
         /** Best is asked by fasts that are told, since the smile asks what it would be by others. */
         int bestSet(int a, int fasts) {
             int lasts = lastsOf(a);
+            int all = allDays();
             int best = NONE;
             int leastFound = 0;
             // Spoons are above 0, so that the fewest days found are the least fine.
-            for (int set = 0; set <= allDays(); set++) {
+            for (int set = 0; set <= all; set++) {
                 int found = Integer.bitCount(yellowDays(lasts, set) & fasts);
                 boolean isEnough = Integer.bitCount(set) >= needOf(a);
                 if (isEnough && (best == NONE || isBetter(found, set, leastFound, best))) {

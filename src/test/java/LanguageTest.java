@@ -22,6 +22,7 @@ public final class LanguageTest {
         library(code);
         signs(source);
         methodsAreShort(code);
+        objectsAreMadeOnceAlone(code);
         shapes();
         Due.end();
     }
@@ -71,6 +72,17 @@ public final class LanguageTest {
                 Due.holds(line - begun < 60, "rule 11: the method at line " + begun + " is long");
                 begun = 0;
             }
+        }
+    }
+
+    /** What a run makes stays small, since only fields and the constructor make anything. */
+    private static void objectsAreMadeOnceAlone(String code) {
+        boolean isInConstructor = false;
+        for (String text : code.split("\n", -1)) {
+            isInConstructor = text.startsWith("    public MustardFast()") || isInConstructor && !text.equals("    }");
+            boolean isField = text.matches(" {8}private final [\\w\\[\\]]+ \\w+ = new .*;");
+            boolean isMaking = Pattern.compile("\\bnew\\b|\\.clone\\(|Arrays\\.copyOf").matcher(text).find();
+            Due.holds(!isMaking || isField || isInConstructor, "rule 12: a call that makes something: " + text);
         }
     }
 
